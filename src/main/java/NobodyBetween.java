@@ -47,6 +47,8 @@ public final class NobodyBetween {
     private static final int[] UNDER = {-1, BENCH, BENCH, BENCH, PEW, RING, BOAT};
     /** How many seats on either side each kind looks at for the first who sits there. */
     private static final int[] REACH = {1, 2, 1, 1, SEATS, 2, 1};
+    /** 1 for kinds whose last seat is ahead of the first. */
+    private static final int[] ROUND = {0, 0, 1, 0, 0, 1, 0};
     /** No bench can list so much: 8 persons of 99, each at most 7 off the middle. */
     private static final int ANY_LISTS = 1000000;
 
@@ -264,9 +266,9 @@ public final class NobodyBetween {
         for (int i = 0; i < n; i++) {
             int person = room.draw() % PERSONS;
             if (!room.isSeated(person)) {
-                int open = seatsToAskFor(person, bench);
-                if (open != 0) {
-                    room.putDown(person, bench, Integer.numberOfTrailingZeros(open));
+                int seat = leastOf(seatsToAskFor(person, bench));
+                if (seat != NO_SEAT) {
+                    room.putDown(person, bench, seat);
                     satDown++;
                 }
             }
@@ -701,6 +703,15 @@ public final class NobodyBetween {
         return ((set >> one) & 1) != 0;
     }
 
+    private static int leastOf(int seats) {
+        for (int seat = 0; seat < SEATS; seat++) {
+            if (has(seats, seat)) {
+                return seat;
+            }
+        }
+        return NO_SEAT;
+    }
+
     private static boolean isUnder(int kind, int above) {
         int at = kind;
         for (int i = 0; i < KINDS && isKind(at); i++) {
@@ -825,10 +836,6 @@ public final class NobodyBetween {
             return many;
         }
 
-        boolean isRound() {
-            return kind == RING || kind == TABLE;
-        }
-
         /** How far a seat is off the middle, in half seats. */
         int armOf(int seat) {
             return 2 * seat - (size - 1);
@@ -837,7 +844,7 @@ public final class NobodyBetween {
         /** The first who sits on one of the next seats on a side, as far as the kind reaches. */
         int neighbour(int seat, int side) {
             int reach = REACH[kind];
-            boolean round = isRound();
+            boolean round = ROUND[kind] == 1;
             int at = seat;
             for (int looked = 0; looked < reach; looked++) {
                 at += side;
@@ -1179,13 +1186,17 @@ public final class NobodyBetween {
             for (int person = 0; person < PERSONS && found < enough; person++) {
                 if (((rest >> person) & 1) != 0 && pinAllows(seat, person)
                         && leavesNobodyBetween(seat, person)) {
-                    row.who[seat] = person;
-                    takenAhead[seat + 1] = seat;
-                    int weight = people.weights[person];
-                    fill(seat + 1, rest & ~(1 << person), spare,
-                            lists + weight * row.armOf(seat), load - weight);
+                    setDown(person, seat, rest, spare, lists, load);
                 }
             }
+        }
+
+        private void setDown(int person, int seat, int rest, int spare, int lists, int load) {
+            row.who[seat] = person;
+            takenAhead[seat + 1] = seat;
+            int weight = people.weights[person];
+            fill(seat + 1, rest & ~(1 << person), spare,
+                    lists + weight * row.armOf(seat), load - weight);
         }
 
         /** Whoever is left sits between this seat and the last one, which bounds what they add. */
@@ -1215,7 +1226,7 @@ public final class NobodyBetween {
 
         /** Only of seats so near the ends is a side round the end. */
         private boolean closesRound() {
-            return !row.isRound()
+            return ROUND[row.kind] == 0
                     || (people.firstWrong(row, 0, Math.min(reach, row.size)) == NO_SEAT
                     && people.firstWrong(row, Math.max(row.size - reach, 0), row.size) == NO_SEAT);
         }
@@ -1228,7 +1239,8 @@ public final class NobodyBetween {
         private static final int NUMBER = 2;
         private static final int SEMICOLON = 3;
         private static final int UNKNOWN = 4;
-        private static final int NUMBER_MOST = 999;
+        /** What a number above 999 is taken for, however many digits it has. */
+        private static final int ABOVE_NUMBERS = 1000;
 
         private final int[] bytes;
         private final Room into;
@@ -1278,18 +1290,13 @@ public final class NobodyBetween {
                 }
             } else if (isDigit(bytes[start])) {
                 token = NUMBER;
-                stepOverNumber();
+                value = 0;
+                while (end < length && isDigit(bytes[end])) {
+                    value = Math.min(10 * value + bytes[end] - '0', ABOVE_NUMBERS);
+                    end++;
+                }
             } else {
                 token = bytes[start] == ';' ? SEMICOLON : UNKNOWN;
-                end++;
-            }
-        }
-
-        /** The value stays just above the most, however many digits there are. */
-        private void stepOverNumber() {
-            value = 0;
-            while (end < length && isDigit(bytes[end])) {
-                value = Math.min(10 * value + bytes[end] - '0', NUMBER_MOST + 1);
                 end++;
             }
         }
