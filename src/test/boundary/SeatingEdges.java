@@ -106,6 +106,8 @@ final class SeatingEdges {
         NobodyBetween y = Rooms.with("bench seats 8;bench seats 1");
         s.due("all are alike", y.kind(0, 0), 0);
         s.due("the only one", y.kind(0, 1), 0);
+        NobodyBetween alone = Rooms.with("friends 0 7;ring seats 4 sits 8 8 7;bench seats 6 sits 1 2 3 4 5 6");
+        s.due("no others sit nowhere, and this one is none of them", alone.kind(0, 0), 0);
         NobodyBetween full = Rooms.with("bench seats 8 sits 1 2 3 4 5 6 7");
         s.due("the last one, nobody else is left", full.kind(0, 0), 7);
         full.sit(0, 0, 7);
@@ -381,7 +383,8 @@ final class SeatingEdges {
         s.refused(Rooms::full, "SIZE ahead of NONE", x -> x.frees(3, 48), Sentences.SIZE);
         s.says(23, "NONE: there is no such pair.");
         s.refused(Rooms::furnished, "of nobody", x -> x.frees(0, 0), Sentences.NONE);
-        s.refused(Rooms::furnished, "one of them", x -> x.frees(0, 1), Sentences.NONE);
+        s.refused(Rooms::furnished, "the one of them", x -> x.frees(0, 1), Sentences.NONE);
+        s.refused(Rooms::furnished, "the other of them", x -> x.frees(0, 2), Sentences.NONE);
         s.refused(Rooms::furnished, "no FRIENDS", x -> x.frees(0, 5), Sentences.NONE);
         s.refused(x -> {
             Rooms.furnished(x);
