@@ -1,12 +1,5 @@
 /** Promises 8 to 16: benches. */
 final class BenchEdges {
-    private static final int BENCH = 0;
-    private static final int PEW = 1;
-    private static final int RING = 2;
-    private static final int BOAT = 3;
-    private static final int BED = 4;
-    private static final int TABLE = 5;
-    private static final int RAFT = 6;
     private static final int LEFT = 0;
     private static final int RIGHT = 1;
 
@@ -121,7 +114,7 @@ final class BenchEdges {
         s.says(9, "A BENCH HOLDS, if no SEAT is WRONG; a BOAT: and LISTS, without sign, is HELD at most;");
         for (int seat = 0; seat < 2; seat++) {
             NobodyBetween x = new NobodyBetween();
-            x.bench(BOAT, 2);
+            x.bench(Kind.BOAT, 2);
             dueHolds(s, x, 0, 1);
             x.sit(0, 0, seat);
             x.weight(0, 1);
@@ -141,7 +134,7 @@ final class BenchEdges {
         NobodyBetween wrong = Rooms.with("friends 0 2;boat seats 3 sits 0 1 2;held 999");
         s.due("a SEAT is WRONG, LISTS is 0", wrong.benchOf(0, 4), 0);
         NobodyBetween others = Rooms.with("held 0;bench seats 8 sits 0");
-        for (int kind : new int[] {BENCH, PEW, RING, BED, TABLE}) {
+        for (int kind : new int[] {Kind.BENCH, Kind.PEW, Kind.RING, Kind.BED, Kind.TABLE}) {
             others.turn(0, kind);
             s.due("kind " + kind + " may list", others.benchOf(0, 4), 1);
         }
@@ -151,7 +144,7 @@ final class BenchEdges {
         s.says(9, "a RAFT: and that is twice HELD at most (HELD alone doesn't matter).");
         for (int seat = 0; seat < 2; seat++) {
             NobodyBetween x = new NobodyBetween();
-            x.bench(RAFT, 2);
+            x.bench(Kind.RAFT, 2);
             dueHolds(s, x, 0, 1);
             x.sit(0, 0, seat);
             x.weight(0, 1);
@@ -182,7 +175,7 @@ final class BenchEdges {
             }
         }
         s.dueRow("all still sit", x, 0, "0.1");
-        s.due("another BENCH stays", x.benchOf(1, 0), PEW);
+        s.due("another BENCH stays", x.benchOf(1, 0), Kind.PEW);
         s.says(10, "BEYOND.");
         s.range(Rooms::furnished, "kind", 0, 6, (y, v) -> y.turn(1, v));
         s.range(Rooms::furnished, "bench", 0, 2, (y, v) -> y.turn(v, 3));
@@ -236,22 +229,22 @@ final class BenchEdges {
 
     private static void besideInARow(Sentences s) {
         s.says(12, "LEFT of a SEAT: BENCH: who sits on the SEAT ahead of it (nobody ahead of 0).");
-        dueSides(s, "01234567", BENCH, ".0123456", "1234567.");
-        dueSides(s, "0..1", BENCH, ".0..", "..1.");
+        dueSides(s, "01234567", Kind.BENCH, ".0123456", "1234567.");
+        dueSides(s, "0..1", Kind.BENCH, ".0..", "..1.");
         s.says(12, "RIGHT likewise, the other way.");
-        dueSides(s, "7......6", BENCH, ".7......", "......6.");
+        dueSides(s, "7......6", Kind.BENCH, ".7......", "......6.");
         s.says(12, "PEW: likewise, but if that SEAT is there and empty, who sits on the one ahead of that.");
-        dueSides(s, "01234567", PEW, ".0123456", "1234567.");
-        dueSides(s, "0......1", PEW, ".00.....", ".....11.");
-        dueSides(s, ".0..1...", PEW, "..00.11.", "0.11....");
-        dueSides(s, "..", PEW, "..", "..");
+        dueSides(s, "01234567", Kind.PEW, ".0123456", "1234567.");
+        dueSides(s, "0......1", Kind.PEW, ".00.....", ".....11.");
+        dueSides(s, ".0..1...", Kind.PEW, "..00.11.", "0.11....");
+        dueSides(s, "..", Kind.PEW, "..", "..");
         s.says(12, "BED: the nearest one of all who sit ahead of it.");
-        dueSides(s, "0......1", BED, ".0000000", "1111111.");
-        dueSides(s, ".2..3...", BED, "..222333", "2333....");
-        dueSides(s, "01234567", BED, ".0123456", "1234567.");
-        dueSides(s, "........", BED, "........", "........");
+        dueSides(s, "0......1", Kind.BED, ".0000000", "1111111.");
+        dueSides(s, ".2..3...", Kind.BED, "..222333", "2333....");
+        dueSides(s, "01234567", Kind.BED, ".0123456", "1234567.");
+        dueSides(s, "........", Kind.BED, "........", "........");
         s.says(12, "BOAT, RAFT: as a BENCH.");
-        for (int kind : new int[] {BOAT, RAFT}) {
+        for (int kind : new int[] {Kind.BOAT, Kind.RAFT}) {
             dueSides(s, "01234567", kind, ".0123456", "1234567.");
             dueSides(s, "0.1....2", kind, ".0.1....", ".1....2.");
         }
@@ -259,18 +252,18 @@ final class BenchEdges {
 
     private static void besideRound(Sentences s) {
         s.says(12, "RING: as a BENCH, but the SEAT ahead of 0 is the last one.");
-        dueSides(s, "01234567", RING, "70123456", "12345670");
-        dueSides(s, "0......1", RING, "10......", "......10");
-        dueSides(s, ".0....1.", RING, "..0....1", "0....1..");
-        dueSides(s, "01", RING, "10", "10");
-        dueSides(s, "0..", RING, ".0.", "..0");
+        dueSides(s, "01234567", Kind.RING, "70123456", "12345670");
+        dueSides(s, "0......1", Kind.RING, "10......", "......10");
+        dueSides(s, ".0....1.", Kind.RING, "..0....1", "0....1..");
+        dueSides(s, "01", Kind.RING, "10", "10");
+        dueSides(s, "0..", Kind.RING, ".0.", "..0");
         s.says(12, "TABLE: as a RING, but if that SEAT is empty, who sits on the next one on (round).");
-        dueSides(s, "01234567", TABLE, "70123456", "12345670");
-        dueSides(s, "0.......", TABLE, ".00.....", "......00");
-        dueSides(s, ".......0", TABLE, "00......", ".....00.");
-        dueSides(s, ".0....1.", TABLE, "1.00...1", "0...11.0");
-        dueSides(s, "0..1", TABLE, "100.", ".110");
-        dueSides(s, "01.", TABLE, "101", "100");
+        dueSides(s, "01234567", Kind.TABLE, "70123456", "12345670");
+        dueSides(s, "0.......", Kind.TABLE, ".00.....", "......00");
+        dueSides(s, ".......0", Kind.TABLE, "00......", ".....00.");
+        dueSides(s, ".0....1.", Kind.TABLE, "1.00...1", "0...11.0");
+        dueSides(s, "0..1", Kind.TABLE, "100.", ".110");
+        dueSides(s, "01.", Kind.TABLE, "101", "100");
     }
 
     private static void besideItself(Sentences s) {
@@ -278,10 +271,10 @@ final class BenchEdges {
         for (int kind = 0; kind < 7; kind++) {
             dueSides(s, "4", kind, ".", ".");
         }
-        dueSides(s, "4.", TABLE, ".4", ".4");
-        dueSides(s, ".4", TABLE, "4.", "4.");
-        dueSides(s, "4.", RING, ".4", ".4");
-        dueSides(s, "4..", TABLE, ".44", ".44");
+        dueSides(s, "4.", Kind.TABLE, ".4", ".4");
+        dueSides(s, ".4", Kind.TABLE, "4.", "4.");
+        dueSides(s, "4.", Kind.RING, ".4", ".4");
+        dueSides(s, "4..", Kind.TABLE, ".44", ".44");
     }
 
     private static void dueWrong(Sentences s, String friends, String sits, int kind, int want) {
@@ -293,23 +286,23 @@ final class BenchEdges {
 
     private static void wrong(Sentences s) {
         s.says(13, "WRONG is a SEAT on which one sits whose LEFT and RIGHT are two unlike PERSONS who are FRIENDS.");
-        dueWrong(s, "friends 0 2", "012", BENCH, 1);
-        dueWrong(s, "friends 0 2", "0.2", BENCH, Sentences.NONE);
-        dueWrong(s, "friends 0 2", "0.2", BED, Sentences.NONE);
-        dueWrong(s, "friends 0 1", "012", BENCH, Sentences.NONE);
-        dueWrong(s, "secret 0 2", "012", BENCH, Sentences.NONE);
-        dueWrong(s, "friends 0 7", "0", BENCH, Sentences.NONE);
-        dueWrong(s, "friends 0 1", "01", BENCH, Sentences.NONE);
-        dueWrong(s, "friends 0 2", "01.2", BENCH, Sentences.NONE);
-        dueWrong(s, "friends 0 2", "01.2", PEW, 1);
-        dueWrong(s, "friends 0 2", "0..1..2", PEW, Sentences.NONE);
-        dueWrong(s, "friends 0 2", "0.1.2", PEW, 2);
-        dueWrong(s, "friends 0 2", "0..1...2", BED, 3);
+        dueWrong(s, "friends 0 2", "012", Kind.BENCH, 1);
+        dueWrong(s, "friends 0 2", "0.2", Kind.BENCH, Sentences.NONE);
+        dueWrong(s, "friends 0 2", "0.2", Kind.BED, Sentences.NONE);
+        dueWrong(s, "friends 0 1", "012", Kind.BENCH, Sentences.NONE);
+        dueWrong(s, "secret 0 2", "012", Kind.BENCH, Sentences.NONE);
+        dueWrong(s, "friends 0 7", "0", Kind.BENCH, Sentences.NONE);
+        dueWrong(s, "friends 0 1", "01", Kind.BENCH, Sentences.NONE);
+        dueWrong(s, "friends 0 2", "01.2", Kind.BENCH, Sentences.NONE);
+        dueWrong(s, "friends 0 2", "01.2", Kind.PEW, 1);
+        dueWrong(s, "friends 0 2", "0..1..2", Kind.PEW, Sentences.NONE);
+        dueWrong(s, "friends 0 2", "0.1.2", Kind.PEW, 2);
+        dueWrong(s, "friends 0 2", "0..1...2", Kind.BED, 3);
         s.says(13, "The first WRONG SEAT of a BENCH. BEYOND. NONE.");
-        dueWrong(s, "friends 4 6;friends 5 7", "01234567", BENCH, 5);
-        dueWrong(s, "friends 5 7", "01234567", BENCH, 6);
-        dueWrong(s, "friends 5 7;friends 0 2", "01234567", BENCH, 1);
-        dueWrong(s, "friends 5 7;friends 1 7", "01234567", RING, 0);
+        dueWrong(s, "friends 4 6;friends 5 7", "01234567", Kind.BENCH, 5);
+        dueWrong(s, "friends 5 7", "01234567", Kind.BENCH, 6);
+        dueWrong(s, "friends 5 7;friends 0 2", "01234567", Kind.BENCH, 1);
+        dueWrong(s, "friends 5 7;friends 1 7", "01234567", Kind.RING, 0);
         s.beyond(Rooms::furnished, "bench", (x, v) -> x.wrong(v), -1, 3, Integer.MIN_VALUE, Integer.MAX_VALUE);
         s.refused(Rooms::furnished, "none is WRONG", x -> x.wrong(0), Sentences.NONE);
         s.refused(Rooms::full, "nobody sits there", x -> x.wrong(4), Sentences.NONE);
@@ -317,16 +310,16 @@ final class BenchEdges {
 
     private static void wrongRound(Sentences s) {
         s.says(13, "two unlike PERSONS");
-        dueWrong(s, "friends 1 7", "01234567", RING, 0);
-        dueWrong(s, "friends 1 7", "01234567", BENCH, Sentences.NONE);
-        dueWrong(s, "friends 0 6", "01234567", RING, 7);
-        dueWrong(s, "friends 0 6", "01234567", TABLE, 7);
-        dueWrong(s, "friends 0 1", "01", RING, Sentences.NONE);
-        dueWrong(s, "friends 0 1", "01.", TABLE, Sentences.NONE);
-        dueWrong(s, "friends 0 2", "0.12", TABLE, 2);
-        dueWrong(s, "friends 1 2", "0.12", TABLE, 0);
-        dueWrong(s, "friends 1 2", "0.12", RING, Sentences.NONE);
-        dueWrong(s, "friends 1 2", "0.1.2.", TABLE, 0);
+        dueWrong(s, "friends 1 7", "01234567", Kind.RING, 0);
+        dueWrong(s, "friends 1 7", "01234567", Kind.BENCH, Sentences.NONE);
+        dueWrong(s, "friends 0 6", "01234567", Kind.RING, 7);
+        dueWrong(s, "friends 0 6", "01234567", Kind.TABLE, 7);
+        dueWrong(s, "friends 0 1", "01", Kind.RING, Sentences.NONE);
+        dueWrong(s, "friends 0 1", "01.", Kind.TABLE, Sentences.NONE);
+        dueWrong(s, "friends 0 2", "0.12", Kind.TABLE, 2);
+        dueWrong(s, "friends 1 2", "0.12", Kind.TABLE, 0);
+        dueWrong(s, "friends 1 2", "0.12", Kind.RING, Sentences.NONE);
+        dueWrong(s, "friends 1 2", "0.1.2.", Kind.TABLE, 0);
     }
 
     private static void sit(Sentences s) {

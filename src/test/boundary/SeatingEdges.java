@@ -1,13 +1,5 @@
 /** Promises 17 to 25: asking, seatings. */
 final class SeatingEdges {
-    private static final int BENCH = 0;
-    private static final int PEW = 1;
-    private static final int RING = 2;
-    private static final int BOAT = 3;
-    private static final int BED = 4;
-    private static final int TABLE = 5;
-    private static final int RAFT = 6;
-
     private SeatingEdges() {
     }
 
@@ -77,7 +69,7 @@ final class SeatingEdges {
             s.due("BOAT of 8, HELD " + due[0], boat.may(0, 0), due[1]);
             s.due("BOAT of 7, HELD " + due[0], boat.may(0, 1), due[2]);
         }
-        boat.turn(0, RAFT);
+        boat.turn(0, Kind.RAFT);
         boat.held(34);
         s.due("RAFT of 8, HELD 34", boat.may(0, 0), 126);
         boat.held(35);
@@ -192,7 +184,7 @@ final class SeatingEdges {
                 + " than SEATS, 6 at most)");
         for (int seats = 1; seats <= 8; seats++) {
             NobodyBetween y = new NobodyBetween();
-            y.bench(seats % 2 == 0 ? PEW : TABLE, seats);
+            y.bench(seats % 2 == 0 ? Kind.PEW : Kind.TABLE, seats);
             int ways = 1;
             for (int many = 0; many <= 7; many++) {
                 int want = many > seats || many > 6 ? Sentences.SIZE : ways;
@@ -213,7 +205,7 @@ final class SeatingEdges {
     private static void seatingsThatHold(Sentences s) {
         s.says(20, ", so that it HOLDS.");
         NobodyBetween x = Rooms.with("friends 0 1;bench seats 3;bench seats 4");
-        int[][] due = {{BENCH, 4, 20}, {PEW, 4, 16}, {BED, 4, 16}, {RING, 0, 16}, {TABLE, 0, 0}};
+        int[][] due = {{Kind.BENCH, 4, 20}, {Kind.PEW, 4, 16}, {Kind.BED, 4, 16}, {Kind.RING, 0, 16}, {Kind.TABLE, 0, 0}};
         for (int[] row : due) {
             x.turn(0, row[0]);
             x.turn(1, row[0]);
@@ -436,9 +428,9 @@ final class SeatingEdges {
             s.due("6", x.needs(bench, 63), 6);
         }
         befriend(x, 0, 1, 2, 3, 4, 5);
-        int[][] due = {{BENCH, 6, 8}, {BENCH, 5, 7}, {BENCH, 3, 4}, {BENCH, 2, 2}, {PEW, 4, 6}, {PEW, 3, 5},
-            {RING, 5, 8}, {RING, 4, 6}, {RING, 2, 2}, {TABLE, 4, 8}, {TABLE, 3, 7}, {TABLE, 2, 2}, {BED, 2, 2},
-            {BOAT, 6, 8}, {RAFT, 6, 8}, {BOAT, 1, 1}};
+        int[][] due = {{Kind.BENCH, 6, 8}, {Kind.BENCH, 5, 7}, {Kind.BENCH, 3, 4}, {Kind.BENCH, 2, 2}, {Kind.PEW, 4, 6}, {Kind.PEW, 3, 5},
+            {Kind.RING, 5, 8}, {Kind.RING, 4, 6}, {Kind.RING, 2, 2}, {Kind.TABLE, 4, 8}, {Kind.TABLE, 3, 7}, {Kind.TABLE, 2, 2}, {Kind.BED, 2, 2},
+            {Kind.BOAT, 6, 8}, {Kind.RAFT, 6, 8}, {Kind.BOAT, 1, 1}};
         for (int[] row : due) {
             x.turn(0, row[0]);
             s.due(row[1] + " friends, kind " + row[0], x.needs(0, (1 << row[1]) - 1), row[2]);
@@ -460,7 +452,7 @@ final class SeatingEdges {
         s.refused(Rooms::furnished, "7, on 8", x -> x.needs(2, 254), Sentences.SIZE);
         s.refused(Rooms::furnished, "8, on 8", x -> x.needs(2, 255), Sentences.SIZE);
         s.says(25, "NONE: also with 8 it hasn't.");
-        int[][] none = {{BED, 3}, {PEW, 5}, {RING, 6}, {TABLE, 5}};
+        int[][] none = {{Kind.BED, 3}, {Kind.PEW, 5}, {Kind.RING, 6}, {Kind.TABLE, 5}};
         for (int[] row : none) {
             s.refused(x -> {
                 x.bench(row[0], 8);

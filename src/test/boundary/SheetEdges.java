@@ -18,10 +18,10 @@ final class SheetEdges {
         copyBeyond(s);
         load(s);
         loadEnds(s);
-        loadRefused(s);
+        readingRefused(s, 41, (x, sheet, bench) -> x.load(sheet, bench));
         judge(s);
         judgeAnswers(s);
-        judgeRefused(s);
+        readingRefused(s, 42, (x, sheet, bench) -> x.judge(sheet, bench));
     }
 
     private static void hold(Sentences s) {
@@ -333,16 +333,26 @@ final class SheetEdges {
         s.due("no finding but where(2)'s", taken.status(-1) + few.status(-1), 1);
     }
 
-    private static void loadRefused(Sentences s) {
-        s.says(41, "BEYOND: no such sheet.");
-        s.beyond(Rooms::furnished, "sheet", (x, v) -> x.load(v, 0), -1, 4, 32, Integer.MIN_VALUE, Integer.MAX_VALUE);
-        s.taken(Rooms::furnished, "sheet 0", x -> x.load(0, 0));
-        s.refused(Rooms::furnished, "no such sheet, no such BENCH", x -> x.load(4, 3), Sentences.BEYOND);
-        s.says(41, "MISSING.");
-        s.refused(Rooms::furnished, "it is missing", x -> x.load(3, 0), Sentences.MISSING);
-        s.refused(Rooms::furnished, "ahead of no such BENCH", x -> x.load(3, 9), Sentences.MISSING);
-        s.says(41, "BEYOND: no such BENCH.");
-        s.range(Rooms::furnished, "bench", 0, 2, (x, v) -> x.load(0, v));
+    /** A call with a sheet and a BENCH. */
+    private interface Reading {
+        int on(NobodyBetween x, int sheet, int bench);
+    }
+
+    private static void readingRefused(Sentences s, int promise, Reading act) {
+        s.says(promise, "BEYOND: no such sheet.");
+        s.beyond(Rooms::furnished, "sheet", (x, v) -> act.on(x, v, 0), -1, 4, 32, Integer.MIN_VALUE,
+                Integer.MAX_VALUE);
+        s.refused(Rooms::furnished, "no such sheet, no such BENCH", x -> act.on(x, 4, 3), Sentences.BEYOND);
+        s.taken(Rooms::furnished, "sheet 0", x -> act.on(x, 0, 0));
+        s.taken(y -> {
+            Rooms.furnished(y);
+            y.sheet(3, 8, 1);
+        }, "sheet 3", x -> act.on(x, 3, 0));
+        s.says(promise, "MISSING.");
+        s.refused(Rooms::furnished, "it is missing", x -> act.on(x, 3, 0), Sentences.MISSING);
+        s.refused(Rooms::furnished, "ahead of no such BENCH", x -> act.on(x, 3, 9), Sentences.MISSING);
+        s.says(promise, "BEYOND: no such BENCH.");
+        s.range(Rooms::furnished, "bench", 0, 2, (x, v) -> act.on(x, 0, v));
     }
 
     private static void judge(Sentences s) {
@@ -405,17 +415,5 @@ final class SheetEdges {
         Rooms.writeAll(x, 1, 16, 9);
         s.due("no PERSON, ahead of 41", x.judge(1, 0), 1);
         s.due("no finding", x.status(-1), 0);
-    }
-
-    private static void judgeRefused(Sentences s) {
-        s.says(42, "BEYOND: no such sheet.");
-        s.beyond(Rooms::furnished, "sheet", (x, v) -> x.judge(v, 0), -1, 4, 32, Integer.MIN_VALUE, Integer.MAX_VALUE);
-        s.taken(Rooms::furnished, "sheet 0", x -> x.judge(0, 0));
-        s.refused(Rooms::furnished, "no such sheet, no such BENCH", x -> x.judge(4, 3), Sentences.BEYOND);
-        s.says(42, "MISSING.");
-        s.refused(Rooms::furnished, "it is missing", x -> x.judge(3, 0), Sentences.MISSING);
-        s.refused(Rooms::furnished, "ahead of no such BENCH", x -> x.judge(3, 9), Sentences.MISSING);
-        s.says(42, "BEYOND: no such BENCH.");
-        s.range(Rooms::furnished, "bench", 0, 2, (x, v) -> x.judge(0, v));
     }
 }

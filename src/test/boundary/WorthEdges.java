@@ -1,9 +1,5 @@
 /** Promises 26 to 32: what a seating is worth, and shows. */
 final class WorthEdges {
-    private static final int BENCH = 0;
-    private static final int RING = 2;
-    private static final int BOAT = 3;
-
     private WorthEdges() {
     }
 
@@ -145,19 +141,19 @@ final class WorthEdges {
             dueShows(s, kind, "0", 0);
             dueShows(s, kind, "01", 0);
         }
-        dueShows(s, BENCH, "01234567", 6);
-        dueShows(s, BOAT, "01234567", 6);
-        dueShows(s, RING, "01234567", 8);
-        dueShows(s, BENCH, "0.1", 0);
-        dueShows(s, 1, "0.1.2", 1);
-        dueShows(s, 1, "0..1.2", 0);
-        dueShows(s, 4, "0...1..2", 1);
-        dueShows(s, 5, "01.", 0);
-        dueShows(s, 5, "0.1.2.", 3);
-        dueShows(s, RING, "012", 3);
+        dueShows(s, Kind.BENCH, "01234567", 6);
+        dueShows(s, Kind.BOAT, "01234567", 6);
+        dueShows(s, Kind.RING, "01234567", 8);
+        dueShows(s, Kind.BENCH, "0.1", 0);
+        dueShows(s, Kind.PEW, "0.1.2", 1);
+        dueShows(s, Kind.PEW, "0..1.2", 0);
+        dueShows(s, Kind.BED, "0...1..2", 1);
+        dueShows(s, Kind.TABLE, "01.", 0);
+        dueShows(s, Kind.TABLE, "0.1.2.", 3);
+        dueShows(s, Kind.RING, "012", 3);
         s.says(29, ", each pair once.");
-        dueShows(s, RING, "0123", 2);
-        dueShows(s, 5, "01.23.", 2);
+        dueShows(s, Kind.RING, "0123", 2);
+        dueShows(s, Kind.TABLE, "01.23.", 2);
         NobodyBetween secret = Rooms.with("secret 0 2;bench seats 3 sits 0 1 2");
         s.due("SECRET ones that don't count", secret.shows(0), 1);
     }
@@ -215,7 +211,7 @@ final class WorthEdges {
         s.due("20.....1 and 12.....0", row.turns(0), 2);
         row.course(0, 7);
         s.due("from another one on", row.turns(0), 2);
-        row.turn(0, RING);
+        row.turn(0, Kind.RING);
         s.due("a RING is WRONG in all", row.turns(0), 0);
         NobodyBetween boat = Rooms.with("boat seats 8 sits 0;raft seats 8 sits 1;boat seats 1 sits 2");
         int[][] due = {{0, 0, 0}, {9, 0, 2}, {10, 2, 2}, {29, 2, 6}, {30, 4, 6}, {34, 4, 6}, {35, 4, 8}, {69, 6, 8},
