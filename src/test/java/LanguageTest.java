@@ -16,6 +16,9 @@ import java.util.regex.Pattern;
 public final class LanguageTest {
     private static final Path FILE = Path.of("src/main/java/NobodyBetween.java");
     private static final Path DOCUMENT = Path.of("../shared/DOC.md");
+    /** What the class uses of the library that LANGUAGE.md lists, beside a String's length and signs. */
+    private static final Set<String> LIBRARY = Set.of("Arrays.fill", "System.arraycopy", "Integer.bitCount",
+            "Math.abs", "Math.max", "Math.min");
     private static int wrong = 0;
 
     private static void due(boolean is, String what) {
@@ -32,6 +35,7 @@ public final class LanguageTest {
         face();
         members();
         words(code);
+        library(code);
         methods(code);
         System.out.println(wrong == 0 ? "the face and the language are as told" : wrong + " are not as told");
         if (wrong != 0) {
@@ -112,6 +116,13 @@ public final class LanguageTest {
         }
         for (int i = 0; i < code.length(); i++) {
             due(code.charAt(i) < 127, "signs below 127");
+        }
+    }
+
+    private static void library(String code) {
+        Matcher used = Pattern.compile("\\b[A-Z]\\w*\\.\\w+(?=\\()").matcher(code);
+        while (used.find()) {
+            due(LIBRARY.contains(used.group()), "no " + used.group());
         }
     }
 
